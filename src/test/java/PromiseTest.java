@@ -1,9 +1,11 @@
-/** For each promise: ordinary inputs, the edges that the document names, wrong inputs. */
+/**
+ * What each promise does with ordinary inputs, and the document's constants. The
+ * boundaries have tests of their own, CallBoundaryTest and RunBoundaryTest.
+ */
 public final class PromiseTest {
     private static final int MIN = Integer.MIN_VALUE;
     private static final int MAX = Integer.MAX_VALUE;
     private static final int BAD = RangeGuard.BAD_ARG;
-    private static final int FULL = RangeGuard.FULL;
     private static final int DONE = RangeGuard.DONE;
     private static final int REFUSED = RangeGuard.REFUSED;
     private static final int OUTSIDE = RangeGuard.OUTSIDE;
@@ -11,9 +13,6 @@ public final class PromiseTest {
     private static final int[] NO_VARIABLES = {MIN, -1, 4, 5, MAX};
     private static final int[] NO_NUMBERS = {MIN, -101, 101, MAX};
     private static final int[] NO_CELLS = {MIN, -1, 8, 9, MAX};
-    private static final int[] NO_MASKS = {MIN, -1, 64, 100, MAX};
-    private static final int[] NO_OFFSETS = {MIN, -9, 9, 100, MAX};
-    private static final int[] NO_TARGETS = {MIN, -1, 15, 100, MAX};
 
     private static final Check CHECK = new Check();
 
@@ -21,9 +20,7 @@ public final class PromiseTest {
         constants();
         newObject();
         range();
-        rangeWrong();
         rangeBinds();
-        rangeStart();
         constant();
         plus();
         sum();
@@ -33,25 +30,16 @@ public final class PromiseTest {
         storeAnyNumberThere();
         less();
         jump();
-        wrongArguments(new RangeGuard());
-        wrongArguments(fullProgram());
-        numbersOfInstructions();
-        full();
         size();
         clear();
         setCell();
         cell();
         variable();
         run();
-        runEndsDone();
-        runEndsTired();
-        runThatEndsChangesNothing();
-        cellsStay();
         ending();
         place();
         worked();
         digest();
-        queriesChangeNothing();
         CHECK.end();
     }
 
@@ -67,30 +55,6 @@ public final class PromiseTest {
         return g;
     }
 
-    /** What can be seen of the last run. */
-    private static void dueRun(String what, RangeGuard g, int ending, int place, int worked) {
-        due(what + ": run", g.run(), ending);
-        dueLast(what, g, ending, place, worked);
-    }
-
-    private static void dueLast(String what, RangeGuard g, int ending, int place, int worked) {
-        due(what + ": ending", g.ending(), ending);
-        due(what + ": place", g.place(), place);
-        due(what + ": worked", g.worked(), worked);
-    }
-
-    private static void dueVariables(String what, RangeGuard g, int... want) {
-        for (int x = 0; x < 4; x++) {
-            due(what + ": variable " + x, g.variable(x), want[x]);
-        }
-    }
-
-    private static void dueCells(String what, RangeGuard g, int... want) {
-        for (int i = 0; i < 8; i++) {
-            due(what + ": cell " + i, g.cell(i), want[i]);
-        }
-    }
-
     private static void constants() {
         due("BAD_ARG", RangeGuard.BAD_ARG, -1);
         due("FULL", RangeGuard.FULL, -2);
@@ -104,27 +68,27 @@ public final class PromiseTest {
     private static void newObject() {
         RangeGuard g = new RangeGuard();
         due("new: size", g.size(), 0);
-        dueLast("new", g, RangeGuard.NO_RUN, -1, 0);
+        CHECK.lastRun("new", g, RangeGuard.NO_RUN, -1, 0);
         due("new: digest", g.digest(), 0);
-        dueVariables("new", g, 0, 0, 0, 0);
-        dueCells("new", g, 0, 0, 0, 0, 0, 0, 0, 0);
+        CHECK.variables("new", g, 0, 0, 0, 0);
+        CHECK.cells("new", g, 0, 0, 0, 0, 0, 0, 0, 0);
         for (int x = 0; x < 4; x++) {
             g.clear();
             g.constant(x, 100);
             g.constant(x, -100);
-            dueRun("new: range of " + x, g, DONE, -1, 2);
+            CHECK.run("new: range of " + x, g, DONE, -1, 2);
             g.clear();
             g.constant(x, 100);
             g.plus(x, x, 1);
-            dueRun("new: range of " + x + " ends at 100", g, REFUSED, 1, 2);
+            CHECK.run("new: range of " + x + " ends at 100", g, REFUSED, 1, 2);
             g.clear();
             g.constant(x, -100);
             g.plus(x, x, -1);
-            dueRun("new: range of " + x + " ends at -100", g, REFUSED, 1, 2);
+            CHECK.run("new: range of " + x + " ends at -100", g, REFUSED, 1, 2);
         }
         RangeGuard other = new RangeGuard();
         due("objects are apart: size", other.size(), 0);
-        dueVariables("objects are apart", other, 0, 0, 0, 0);
+        CHECK.variables("objects are apart", other, 0, 0, 0, 0);
     }
 
     private static void range() {
@@ -134,41 +98,15 @@ public final class PromiseTest {
         due("range one number", g.range(2, 7, 7), 0);
         due("range at 100", g.range(3, 100, 100), 0);
         due("range at -100", g.range(3, -100, -100), 0);
-        dueVariables("range keeps what variables hold", g, 0, 0, 0, 0);
+        CHECK.variables("range keeps what variables hold", g, 0, 0, 0, 0);
         g.run();
-        dueVariables("the run starts in the ranges", g, 2, 0, 7, -100);
+        CHECK.variables("the run starts in the ranges", g, 2, 0, 7, -100);
         g.range(0, 50, 60);
-        dueVariables("range keeps what a run left", g, 2, 0, 7, -100);
+        CHECK.variables("range keeps what a run left", g, 2, 0, 7, -100);
         due("range keeps the digest", g.digest(), 2 + 21 - 400);
-        dueLast("range keeps the last run", g, DONE, -1, 0);
+        CHECK.lastRun("range keeps the last run", g, DONE, -1, 0);
         g.run();
-        dueVariables("the next run has the new range", g, 50, 0, 7, -100);
-    }
-
-    private static void rangeWrong() {
-        RangeGuard g = new RangeGuard();
-        for (int x = 0; x < 4; x++) {
-            g.range(x, 3, 5);
-        }
-        for (int x : NO_VARIABLES) {
-            due("range of " + x, g.range(x, 0, 1), BAD);
-        }
-        for (int n : NO_NUMBERS) {
-            due("range lo " + n, g.range(1, n, 100), BAD);
-            due("range hi " + n, g.range(1, -100, n), BAD);
-            due("range lo and hi " + n, g.range(1, n, n), BAD);
-        }
-        due("range lo > hi", g.range(2, 1, 0), BAD);
-        due("range lo > hi, wide", g.range(2, 100, -100), BAD);
-        g.run();
-        dueVariables("refused ranges change nothing", g, 3, 3, 3, 3);
-        for (int x = 0; x < 4; x++) {
-            g.clear();
-            g.constant(x, 5);
-            dueRun("hi of " + x + " is as it was", g, DONE, -1, 1);
-            g.plus(x, x, 1);
-            dueRun("hi of " + x + " is not wider", g, REFUSED, 1, 2);
-        }
+        CHECK.variables("the next run has the new range", g, 50, 0, 7, -100);
     }
 
     private static void rangeBinds() {
@@ -178,30 +116,14 @@ public final class PromiseTest {
             g.constant(x, -3);
             g.constant(x, 6);
             g.constant((x + 1) % 4, 7);
-            dueRun("both ends are in the range", g, DONE, -1, 3);
+            CHECK.run("both ends are in the range", g, DONE, -1, 3);
             g.constant(x, 7);
-            dueRun("hi + 1 is not in the range", g, REFUSED, 3, 4);
+            CHECK.run("hi + 1 is not in the range", g, REFUSED, 3, 4);
             due("refused: variable", g.variable(x), 6);
             g.clear();
             g.constant(x, -4);
-            dueRun("lo - 1 is not in the range", g, REFUSED, 0, 1);
+            CHECK.run("lo - 1 is not in the range", g, REFUSED, 0, 1);
             due("refused: variable at its start", g.variable(x), 0);
-        }
-    }
-
-    private static void rangeStart() {
-        int[][] rows = {
-            {-100, 100, 0}, {0, 0, 0}, {0, 5, 0}, {-5, 0, 0}, {-1, 1, 0}, {1, 100, 1},
-            {-100, -1, -1}, {5, 9, 5}, {-9, -2, -2}, {100, 100, 100}, {-100, -100, -100},
-        };
-        for (int[] row : rows) {
-            for (int x = 0; x < 4; x++) {
-                RangeGuard g = new RangeGuard();
-                g.range(x, row[0], row[1]);
-                g.run();
-                due("start of " + x + " in " + row[0] + " to " + row[1], g.variable(x), row[2]);
-                due("start of another variable", g.variable((x + 1) % 4), 0);
-            }
         }
     }
 
@@ -211,7 +133,7 @@ public final class PromiseTest {
                 RangeGuard g = new RangeGuard();
                 due("constant " + k, g.constant(x, k), 0);
                 due("constant appended: holds until a run", g.variable(x), 0);
-                dueRun("constant " + k, g, DONE, -1, 1);
+                CHECK.run("constant " + k, g, DONE, -1, 1);
                 due("constant " + k + ": variable", g.variable(x), k);
                 due("constant " + k + ": digest", g.digest(), (x + 1) * k);
             }
@@ -224,7 +146,7 @@ public final class PromiseTest {
                 RangeGuard g = new RangeGuard();
                 g.constant(y, 30);
                 due("plus", g.plus(x, y, -70), 1);
-                dueRun("plus", g, DONE, -1, 2);
+                CHECK.run("plus", g, DONE, -1, 2);
                 due("plus: x", g.variable(x), -40);
                 due("plus: y", g.variable(y), x == y ? -40 : 30);
             }
@@ -234,13 +156,13 @@ public final class PromiseTest {
         due("plus 100", g.plus(0, 0, 100), 1);
         due("plus 100 again", g.plus(0, 0, 100), 2);
         due("plus past 100", g.plus(1, 0, 1), 3);
-        dueRun("plus past 100", g, REFUSED, 3, 4);
-        dueVariables("plus past 100", g, 100, 0, 0, 0);
+        CHECK.run("plus past 100", g, REFUSED, 3, 4);
+        CHECK.variables("plus past 100", g, 100, 0, 0, 0);
         g.clear();
         g.plus(2, 2, -100);
         g.plus(3, 2, -100);
-        dueRun("plus past -100", g, REFUSED, 1, 2);
-        dueVariables("plus past -100", g, 0, 0, -100, 0);
+        CHECK.run("plus past -100", g, REFUSED, 1, 2);
+        CHECK.variables("plus past -100", g, 0, 0, -100, 0);
     }
 
     private static void sum() {
@@ -254,7 +176,7 @@ public final class PromiseTest {
                         g.constant(v, powers[v]);
                     }
                     due("sum", g.sum(x, y, z), 4);
-                    dueRun("sum", g, DONE, -1, 5);
+                    CHECK.run("sum", g, DONE, -1, 5);
                     for (int v = 0; v < 4; v++) {
                         int held = v == x ? powers[y] + powers[z] : powers[v];
                         due("sum " + x + y + z + ": variable " + v, g.variable(v), held);
@@ -266,13 +188,13 @@ public final class PromiseTest {
         g.constant(0, 50);
         g.sum(1, 0, 0);
         g.sum(1, 1, 0);
-        dueRun("sum past 100", g, REFUSED, 2, 3);
-        dueVariables("sum past 100", g, 50, 100, 0, 0);
+        CHECK.run("sum past 100", g, REFUSED, 2, 3);
+        CHECK.variables("sum past 100", g, 50, 100, 0, 0);
         g.clear();
         g.constant(0, -100);
         g.sum(2, 0, 0);
-        dueRun("sum past -100", g, REFUSED, 1, 2);
-        dueVariables("sum past -100", g, -100, 0, 0, 0);
+        CHECK.run("sum past -100", g, REFUSED, 1, 2);
+        CHECK.variables("sum past -100", g, -100, 0, 0, 0);
     }
 
     private static void mask() {
@@ -286,7 +208,7 @@ public final class PromiseTest {
                 RangeGuard g = new RangeGuard();
                 g.constant(y, row[0]);
                 due("mask", g.mask(x, y, row[1]), 1);
-                dueRun("mask", g, DONE, -1, 2);
+                CHECK.run("mask", g, DONE, -1, 2);
                 due("mask " + row[0] + " & " + row[1], g.variable(x), row[2]);
                 due("mask keeps y", g.variable(y), row[0]);
             }
@@ -296,12 +218,12 @@ public final class PromiseTest {
         g.constant(0, -1);
         g.mask(1, 0, 62);
         g.mask(1, 0, 63);
-        dueRun("mask out of the range", g, REFUSED, 2, 3);
+        CHECK.run("mask out of the range", g, REFUSED, 2, 3);
         due("mask out of the range: x", g.variable(1), 62);
         g.clear();
         g.constant(2, 44);
         g.mask(2, 2, 40);
-        dueRun("mask of itself", g, DONE, -1, 2);
+        CHECK.run("mask of itself", g, DONE, -1, 2);
         due("mask of itself", g.variable(2), 40);
     }
 
@@ -321,9 +243,9 @@ public final class PromiseTest {
                 due("load", g.load(2, 1, k), 1);
                 int i = y + k;
                 boolean inside = i >= 0 && i <= 7;
-                dueRun("load " + y + " + " + k, g, inside ? DONE : OUTSIDE, inside ? -1 : 1, 2);
-                dueVariables("load " + y + " + " + k, g, 0, y, inside ? 10 * i + 3 : 0, 0);
-                dueCells("load", g, 3, 13, 23, 33, 43, 53, 63, 73);
+                CHECK.run("load " + y + " + " + k, g, inside ? DONE : OUTSIDE, inside ? -1 : 1, 2);
+                CHECK.variables("load " + y + " + " + k, g, 0, y, inside ? 10 * i + 3 : 0, 0);
+                CHECK.cells("load", g, 3, 13, 23, 33, 43, 53, 63, 73);
             }
         }
         RangeGuard g = numberedCells();
@@ -331,26 +253,26 @@ public final class PromiseTest {
         g.constant(0, 6);
         g.load(3, 0, 0);
         g.load(3, 0, 1);
-        dueRun("load out of the range", g, REFUSED, 2, 3);
-        dueVariables("load out of the range", g, 6, 0, 0, 63);
+        CHECK.run("load out of the range", g, REFUSED, 2, 3);
+        CHECK.variables("load out of the range", g, 6, 0, 0, 63);
         g.range(3, 0, 0);
         g.clear();
         g.load(3, 0, 8);
-        dueRun("load outside comes before the range", g, OUTSIDE, 0, 1);
+        CHECK.run("load outside comes before the range", g, OUTSIDE, 0, 1);
         g.clear();
         g.setCell(0, 4);
         g.load(0, 0, 0);
         g.load(0, 0, 0);
-        dueRun("load by itself", g, DONE, -1, 2);
+        CHECK.run("load by itself", g, DONE, -1, 2);
         due("load by itself", g.variable(0), 43);
         g.clear();
         g.constant(1, 100);
         g.load(0, 1, 8);
-        dueRun("load far above", g, OUTSIDE, 1, 2);
+        CHECK.run("load far above", g, OUTSIDE, 1, 2);
         g.clear();
         g.constant(1, -100);
         g.load(0, 1, -8);
-        dueRun("load far below", g, OUTSIDE, 1, 2);
+        CHECK.run("load far below", g, OUTSIDE, 1, 2);
     }
 
     private static void store() {
@@ -362,8 +284,8 @@ public final class PromiseTest {
                 due("store", g.store(3, 1, k), 2);
                 int i = y + k;
                 boolean inside = i >= 0 && i <= 7;
-                dueRun("store " + y + " + " + k, g, inside ? DONE : OUTSIDE, inside ? -1 : 2, 3);
-                dueVariables("store " + y + " + " + k, g, 0, y, 0, -77);
+                CHECK.run("store " + y + " + " + k, g, inside ? DONE : OUTSIDE, inside ? -1 : 2, 3);
+                CHECK.variables("store " + y + " + " + k, g, 0, y, 0, -77);
                 for (int c = 0; c < 8; c++) {
                     due("store " + y + " + " + k + ": cell " + c, g.cell(c), c == i ? -77 : 10 * c + 3);
                 }
@@ -372,8 +294,8 @@ public final class PromiseTest {
         RangeGuard g = new RangeGuard();
         g.constant(2, 5);
         g.store(2, 2, 2);
-        dueRun("store of its own index", g, DONE, -1, 2);
-        dueCells("store of its own index", g, 0, 0, 0, 0, 0, 0, 0, 5);
+        CHECK.run("store of its own index", g, DONE, -1, 2);
+        CHECK.cells("store of its own index", g, 0, 0, 0, 0, 0, 0, 0, 5);
     }
 
     /** A cell takes every number from -100 to 100, whatever the ranges of other variables. */
@@ -386,7 +308,7 @@ public final class PromiseTest {
             g.range(3, 0, 0);
             g.constant(0, n);
             g.store(0, 1, 0);
-            dueRun("store " + n, g, DONE, -1, 2);
+            CHECK.run("store " + n, g, DONE, -1, 2);
             due("store " + n + ": cell", g.cell(0), n);
         }
     }
@@ -403,7 +325,7 @@ public final class PromiseTest {
                 g.constant((x + 2) % 4, 1);
                 g.constant((x + 3) % 4, 1);
                 String what = "less " + row[0] + " " + row[1];
-                dueRun(what, g, DONE, -1, row[2] == 1 ? 4 : 5);
+                CHECK.run(what, g, DONE, -1, row[2] == 1 ? 4 : 5);
                 due(what + ": goes on at the next", g.variable((x + 2) % 4), 1 - row[2]);
                 due(what + ": the target", g.variable((x + 3) % 4), 1);
                 due(what + ": x stays", g.variable(x), row[0]);
@@ -415,14 +337,14 @@ public final class PromiseTest {
         g.range(1, 4, 4);
         g.plus(0, 0, 1);
         due("less back", g.less(0, 1, 0), 1);
-        dueRun("less back", g, DONE, -1, 8);
+        CHECK.run("less back", g, DONE, -1, 8);
         due("less back: x", g.variable(0), 4);
         due("less of one variable", g.less(2, 2, 0), 2);
-        dueRun("less of one variable", g, DONE, -1, 9);
+        CHECK.run("less of one variable", g, DONE, -1, 9);
         g.clear();
         due("less to 14", g.less(0, 1, 14), 0);
         g.constant(0, 1);
-        dueRun("less past the program", g, DONE, -1, 1);
+        CHECK.run("less past the program", g, DONE, -1, 1);
     }
 
     private static void jump() {
@@ -430,106 +352,28 @@ public final class PromiseTest {
         due("jump over", g.jump(2), 0);
         g.constant(0, 1);
         g.constant(1, 1);
-        dueRun("jump over", g, DONE, -1, 2);
-        dueVariables("jump over", g, 0, 1, 0, 0);
+        CHECK.run("jump over", g, DONE, -1, 2);
+        CHECK.variables("jump over", g, 0, 1, 0, 0);
         g.clear();
         g.jump(3);
         g.constant(0, 8);
         due("jump past the end", g.jump(14), 2);
         due("jump back", g.jump(1), 3);
-        dueRun("jump back", g, DONE, -1, 4);
+        CHECK.run("jump back", g, DONE, -1, 4);
         due("jump back", g.variable(0), 8);
         for (int t = 1; t <= 14; t++) {
             RangeGuard past = new RangeGuard();
             due("jump to " + t, past.jump(t), 0);
-            dueRun("jump to " + t, past, DONE, -1, 1);
+            CHECK.run("jump to " + t, past, DONE, -1, 1);
         }
         // The target is looked up at the run, not when the jump is appended.
         RangeGuard late = new RangeGuard();
         late.jump(2);
-        dueRun("nothing at the target yet", late, DONE, -1, 1);
+        CHECK.run("nothing at the target yet", late, DONE, -1, 1);
         late.constant(0, 1);
         late.constant(1, 1);
-        dueRun("something at the target", late, DONE, -1, 2);
-        dueVariables("something at the target", late, 0, 1, 0, 0);
-    }
-
-    /** Every wrong argument answers BAD_ARG, also where the program is full, and changes nothing. */
-    private static void wrongArguments(RangeGuard g) {
-        int size = g.size();
-        for (int v : NO_VARIABLES) {
-            due("constant x " + v, g.constant(v, 0), BAD);
-            due("plus x " + v, g.plus(v, 0, 0), BAD);
-            due("plus y " + v, g.plus(0, v, 0), BAD);
-            due("sum x " + v, g.sum(v, 0, 0), BAD);
-            due("sum y " + v, g.sum(0, v, 0), BAD);
-            due("sum z " + v, g.sum(0, 0, v), BAD);
-            due("mask x " + v, g.mask(v, 0, 0), BAD);
-            due("mask y " + v, g.mask(0, v, 0), BAD);
-            due("load x " + v, g.load(v, 0, 0), BAD);
-            due("load y " + v, g.load(0, v, 0), BAD);
-            due("store x " + v, g.store(v, 0, 0), BAD);
-            due("store y " + v, g.store(0, v, 0), BAD);
-            due("less x " + v, g.less(v, 0, 0), BAD);
-            due("less y " + v, g.less(0, v, 0), BAD);
-        }
-        for (int n : NO_NUMBERS) {
-            due("constant k " + n, g.constant(0, n), BAD);
-            due("plus k " + n, g.plus(0, 0, n), BAD);
-        }
-        for (int k : NO_MASKS) {
-            due("mask k " + k, g.mask(0, 0, k), BAD);
-        }
-        for (int k : NO_OFFSETS) {
-            due("load k " + k, g.load(0, 0, k), BAD);
-            due("store k " + k, g.store(0, 0, k), BAD);
-        }
-        for (int t : NO_TARGETS) {
-            due("less t " + t, g.less(0, 0, t), BAD);
-            due("jump t " + t, g.jump(t), BAD);
-        }
-        due("wrong arguments: size", g.size(), size);
-        dueRun("wrong arguments: the program", g, DONE, -1, size);
-        dueVariables("wrong arguments", g, size == 0 ? 0 : size - 1, 0, 0, 0);
-    }
-
-    private static int appendOne(RangeGuard g, int kind, boolean greatest) {
-        int v = greatest ? 3 : 0;
-        switch (kind) {
-            case 0: return g.constant(v, greatest ? 100 : -100);
-            case 1: return g.plus(v, v, greatest ? 100 : -100);
-            case 2: return g.sum(v, v, v);
-            case 3: return g.mask(v, v, greatest ? 63 : 0);
-            case 4: return g.load(v, v, greatest ? 8 : -8);
-            case 5: return g.store(v, v, greatest ? 8 : -8);
-            case 6: return g.less(v, v, greatest ? 14 : 0);
-            default: return g.jump(greatest ? 14 : 0);
-        }
-    }
-
-    /** The outermost arguments are taken, and the answers are 0, 1, .. 13. */
-    private static void numbersOfInstructions() {
-        for (int kind = 0; kind < 8; kind++) {
-            RangeGuard g = new RangeGuard();
-            for (int n = 0; n < 14; n++) {
-                due("kind " + kind + ": number", appendOne(g, kind, n % 2 == 1), n);
-                due("kind " + kind + ": size", g.size(), n + 1);
-            }
-            due("kind " + kind + ": full", appendOne(g, kind, true), FULL);
-        }
-    }
-
-    private static void full() {
-        RangeGuard g = fullProgram();
-        for (int kind = 0; kind < 8; kind++) {
-            due("full: least, kind " + kind, appendOne(g, kind, false), FULL);
-            due("full: greatest, kind " + kind, appendOne(g, kind, true), FULL);
-        }
-        due("full: size", g.size(), 14);
-        dueRun("full: the program is as it was", g, DONE, -1, 14);
-        dueVariables("full: the program is as it was", g, 13, 0, 0, 0);
-        g.clear();
-        due("full no more", g.constant(0, 0), 0);
+        CHECK.run("something at the target", late, DONE, -1, 2);
+        CHECK.variables("something at the target", late, 0, 1, 0, 0);
     }
 
     private static void size() {
@@ -556,15 +400,15 @@ public final class PromiseTest {
         g.run();
         g.clear();
         due("clear: size", g.size(), 0);
-        dueLast("clear keeps the last run", g, REFUSED, 1, 2);
-        dueVariables("clear keeps variables", g, 6, 4, 0, 0);
+        CHECK.lastRun("clear keeps the last run", g, REFUSED, 1, 2);
+        CHECK.variables("clear keeps variables", g, 6, 4, 0, 0);
         due("clear keeps cells", g.cell(3), 21);
         due("clear keeps the digest", g.digest(), 6 + 8 + 8 * 21);
-        dueRun("clear: the run of no instruction", g, DONE, -1, 0);
-        dueVariables("clear keeps ranges", g, 0, 4, 0, 0);
+        CHECK.run("clear: the run of no instruction", g, DONE, -1, 0);
+        CHECK.variables("clear keeps ranges", g, 0, 4, 0, 0);
         due("clear: numbers start again", g.constant(2, 5), 0);
-        dueRun("clear: nothing old is left", g, DONE, -1, 1);
-        dueVariables("clear: nothing old is left", g, 0, 4, 5, 0);
+        CHECK.run("clear: nothing old is left", g, DONE, -1, 1);
+        CHECK.variables("clear: nothing old is left", g, 0, 4, 5, 0);
     }
 
     private static void setCell() {
@@ -573,7 +417,7 @@ public final class PromiseTest {
             due("setCell from 0", g.setCell(i, i - 100), 0);
             due("setCell answers what it held", g.setCell(i, 100 - i), i - 100);
         }
-        dueCells("setCell", g, 100, 99, 98, 97, 96, 95, 94, 93);
+        CHECK.cells("setCell", g, 100, 99, 98, 97, 96, 95, 94, 93);
         for (int i : NO_CELLS) {
             due("setCell " + i, g.setCell(i, 1), BAD);
         }
@@ -581,9 +425,9 @@ public final class PromiseTest {
             due("setCell v " + v, g.setCell(2, v), BAD);
             due("setCell both wrong " + v, g.setCell(8, v), BAD);
         }
-        dueCells("setCell refused", g, 100, 99, 98, 97, 96, 95, 94, 93);
-        dueVariables("setCell keeps variables", g, 0, 0, 0, 0);
-        dueLast("setCell is no run", g, RangeGuard.NO_RUN, -1, 0);
+        CHECK.cells("setCell refused", g, 100, 99, 98, 97, 96, 95, 94, 93);
+        CHECK.variables("setCell keeps variables", g, 0, 0, 0, 0);
+        CHECK.lastRun("setCell is no run", g, RangeGuard.NO_RUN, -1, 0);
         due("setCell -100", g.setCell(5, -100), 95);
         due("setCell held -100", g.setCell(5, 0), -100);
         due("setCell held -1", g.setCell(6, -1), 94);
@@ -606,9 +450,9 @@ public final class PromiseTest {
         for (int x = 0; x < 4; x++) {
             g.range(x, 11 * x + 5, 100);
         }
-        dueVariables("variable before a run", g, 0, 0, 0, 0);
+        CHECK.variables("variable before a run", g, 0, 0, 0, 0);
         g.run();
-        dueVariables("variable after a run", g, 5, 16, 27, 38);
+        CHECK.variables("variable after a run", g, 5, 16, 27, 38);
         for (int x : NO_VARIABLES) {
             due("variable " + x, g.variable(x), 0);
         }
@@ -616,109 +460,25 @@ public final class PromiseTest {
 
     private static void run() {
         RangeGuard g = new RangeGuard();
-        dueRun("no instruction", g, DONE, -1, 0);
+        CHECK.run("no instruction", g, DONE, -1, 0);
         g.plus(0, 0, 7);
         g.store(0, 1, 0);
         g.plus(1, 1, 3);
         g.sum(2, 0, 1);
         for (int n = 0; n < 3; n++) {
-            dueRun("every run starts anew", g, DONE, -1, 4);
-            dueVariables("every run starts anew", g, 7, 3, 10, 0);
+            CHECK.run("every run starts anew", g, DONE, -1, 4);
+            CHECK.variables("every run starts anew", g, 7, 3, 10, 0);
         }
         g.constant(3, 1);
         g.range(3, 2, 3);
-        dueRun("refused", g, REFUSED, 4, 5);
-        dueVariables("refused", g, 7, 3, 10, 2);
+        CHECK.run("refused", g, REFUSED, 4, 5);
+        CHECK.variables("refused", g, 7, 3, 10, 2);
         g.range(0, -1, 6);
-        dueRun("refused at 0", g, REFUSED, 0, 1);
-        dueVariables("refused at 0", g, 0, 0, 0, 2);
+        CHECK.run("refused at 0", g, REFUSED, 0, 1);
+        CHECK.variables("refused at 0", g, 0, 0, 0, 2);
         g.clear();
-        dueRun("a run without instruction sets variables", g, DONE, -1, 0);
-        dueVariables("a run without instruction sets variables", g, 0, 0, 0, 2);
-    }
-
-    /** A loop that works off two instructions a round; what is appended comes after it. */
-    private static RangeGuard loopOfTwo(int rounds) {
-        RangeGuard g = new RangeGuard();
-        g.range(1, rounds, rounds);
-        g.plus(0, 0, 1);
-        g.less(0, 1, 0);
-        return g;
-    }
-
-    private static void runEndsDone() {
-        dueRun("118 worked off", loopOfTwo(59), DONE, -1, 118);
-        dueRun("120 worked off, by the next number", loopOfTwo(60), DONE, -1, 120);
-        RangeGuard byOne = loopOfTwo(59);
-        byOne.constant(2, 1);
-        dueRun("119 worked off", byOne, DONE, -1, 119);
-        byOne.jump(14);
-        byOne.constant(3, 1);
-        dueRun("120 worked off, by a jump", byOne, DONE, -1, 120);
-        RangeGuard byLess = loopOfTwo(59);
-        byLess.constant(2, 1);
-        byLess.less(3, 2, 14);
-        byLess.constant(3, 1);
-        dueRun("120 worked off, by less", byLess, DONE, -1, 120);
-        due("120 worked off, by less", byLess.variable(3), 0);
-        dueRun("14 instructions", fullProgram(), DONE, -1, 14);
-    }
-
-    private static void runEndsTired() {
-        RangeGuard g = loopOfTwo(60);
-        g.constant(2, 1);
-        dueRun("an instruction after 120", g, TIRED, -1, 120);
-        dueVariables("an instruction after 120", g, 60, 60, 0, 0);
-        dueRun("a loop of 61 rounds", loopOfTwo(61), TIRED, -1, 120);
-        RangeGuard own = new RangeGuard();
-        own.jump(0);
-        dueRun("a jump to itself", own, TIRED, -1, 120);
-        RangeGuard refused = loopOfTwo(59);
-        refused.range(2, 0, 0);
-        refused.constant(3, 1);
-        refused.constant(2, 1);
-        dueRun("refused at the 120th", refused, REFUSED, 3, 120);
-        RangeGuard outside = loopOfTwo(59);
-        outside.constant(3, 1);
-        outside.load(2, 3, 7);
-        dueRun("outside at the 120th", outside, OUTSIDE, 3, 120);
-        RangeGuard late = loopOfTwo(60);
-        late.load(2, 3, 8);
-        dueRun("outside would be the 121st", late, TIRED, -1, 120);
-    }
-
-    private static void runThatEndsChangesNothing() {
-        RangeGuard g = numberedCells();
-        g.range(2, 0, 20);
-        g.constant(2, 20);
-        g.constant(0, 1);
-        g.store(2, 0, 0);
-        g.store(0, 2, -8);
-        g.constant(3, 1);
-        dueRun("store outside", g, OUTSIDE, 3, 4);
-        dueVariables("store outside", g, 1, 0, 20, 0);
-        dueCells("store outside", g, 3, 20, 23, 33, 43, 53, 63, 73);
-        g.clear();
-        g.constant(2, 9);
-        g.load(2, 1, 3);
-        g.store(2, 1, 0);
-        dueRun("load refused", g, REFUSED, 1, 2);
-        dueVariables("load refused", g, 0, 0, 9, 0);
-        dueCells("load refused", g, 3, 20, 23, 33, 43, 53, 63, 73);
-    }
-
-    private static void cellsStay() {
-        RangeGuard g = new RangeGuard();
-        g.load(0, 1, 5);
-        g.plus(0, 0, 40);
-        g.store(0, 1, 5);
-        dueRun("cells stay, run 1", g, DONE, -1, 3);
-        due("cells stay, run 1", g.cell(5), 40);
-        dueRun("cells stay, run 2", g, DONE, -1, 3);
-        due("cells stay, run 2", g.cell(5), 80);
-        dueRun("cells stay, run 3", g, REFUSED, 1, 2);
-        due("cells stay, run 3", g.cell(5), 80);
-        due("cells stay, run 3", g.variable(0), 80);
+        CHECK.run("a run without instruction sets variables", g, DONE, -1, 0);
+        CHECK.variables("a run without instruction sets variables", g, 0, 0, 0, 2);
     }
 
     private static void ending() {
@@ -754,20 +514,20 @@ public final class PromiseTest {
             }
             g.load(1, 2, 8);
             due("place before the run", g.place(), -1);
-            dueRun("place " + n, g, OUTSIDE, n, n + 1);
+            CHECK.run("place " + n, g, OUTSIDE, n, n + 1);
             g.clear();
             due("place stays", g.place(), n);
-            dueRun("place of a run that ends DONE", g, DONE, -1, 0);
+            CHECK.run("place of a run that ends DONE", g, DONE, -1, 0);
         }
         RangeGuard g = new RangeGuard();
         g.range(3, 0, 4);
         g.jump(2);
         g.constant(3, 5);
         g.jump(1);
-        dueRun("place is a number, not a count", g, REFUSED, 1, 3);
+        CHECK.run("place is a number, not a count", g, REFUSED, 1, 3);
         g.clear();
         g.jump(0);
-        dueRun("place of a run that ends TIRED", g, TIRED, -1, 120);
+        CHECK.run("place of a run that ends TIRED", g, TIRED, -1, 120);
     }
 
     private static void worked() {
@@ -806,21 +566,6 @@ public final class PromiseTest {
             }
             g.run();
             due("digest of all", g.digest(), n * 78);
-        }
-    }
-
-    private static void queriesChangeNothing() {
-        RangeGuard g = numberedCells();
-        g.range(0, 2, 5);
-        g.load(1, 0, 0);
-        g.constant(0, 6);
-        g.run();
-        for (int round = 0; round < 2; round++) {
-            due("query: size", g.size(), 2);
-            dueLast("query", g, REFUSED, 1, 2);
-            dueVariables("query", g, 2, 23, 0, 0);
-            dueCells("query", g, 3, 13, 23, 33, 43, 53, 63, 73);
-            due("query: digest", g.digest(), 3052);
         }
     }
 }
