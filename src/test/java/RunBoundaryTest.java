@@ -289,8 +289,8 @@ public final class RunBoundaryTest {
 
     /** Instructions that only tell, by variable 3, how far a run got. */
     private static void fill(RangeGuard g, int size) {
-        while (g.size() < size) {
-            g.constant(3, 50 + g.size());
+        for (int n = g.size(); n < size; n++) {
+            g.constant(3, 50 + n);
         }
     }
 
